@@ -374,7 +374,7 @@ public final class LoopFuser {
         return slot % SLOTS == DEST;
     }
 
-    /** Where the contents hold the cell of the reference in the slot, or NO_CELL out of range. */
+    // The place in the contents, not the index in the array, so that equal places mean one cell.
     private int cellAt(int slot, int i) {
         int index = slotCoef[slot] * i + slotValue[slot];
         if (index < 0 || index >= length) {
@@ -409,7 +409,7 @@ public final class LoopFuser {
         return loopLo[loop] == loopLo[other] && loopHi[loop] == loopHi[other];
     }
 
-    /** The least j - i over all conflicts of the newest group with the loop that follows it. */
+    // The loop follows the newest group directly, so the group's slots end where its own begin.
     private int leastDistance(int loop) {
         int groupStart = loopFirst[groupFirstLoop[groupCount - 1]] * SLOTS;
         int loopStart = loopFirst[loop] * SLOTS;
@@ -521,7 +521,8 @@ public final class LoopFuser {
         }
     }
 
-    /** Runs the loop's bounds over its statements and those after them up to end. */
+    // A group's statements are consecutive, so its body is its first loop's, stretched to the
+    // end of its last loop.
     private void runBody(int loop, int end, int[] contents, boolean contracting) {
         for (int i = loopLo[loop]; i <= loopHi[loop]; i++) {
             for (int stmt = loopFirst[loop]; stmt < end; stmt++) {

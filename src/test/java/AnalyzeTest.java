@@ -18,6 +18,7 @@ public final class AnalyzeTest {
         leavesOutCellsOutOfRange();
         findsNoDistanceWithoutIteration();
         looksAtEveryAccess();
+        looksAtNoConflictInsideALoop();
         looksAtTheWholeGroupAndNoOther();
         takesTheLeastOfAll();
         testsBoundsFirst();
@@ -178,6 +179,15 @@ public final class AnalyzeTest {
         x.setValueOperand(0, LoopFuser.OPND_CONST, 1);
         x.setValueOperand(1, LoopFuser.OPND_INDEX, 1);
         expectSecond("references replaced by values", x, NONE);
+    }
+
+    private static void looksAtNoConflictInsideALoop() {
+        for (int offset = -1; offset <= 1; offset++) {
+            LoopFuser x = new LoopFuser(6, 16);
+            Programs.copyLoop(x, 0, 7, ref(A, 1, 0), ref(A, 1, offset));
+            Programs.copyLoop(x, 0, 7, ref(B, 1, 0), ref(B, 1, offset));
+            expectSecond("inside a loop " + offset, x, NONE);
+        }
     }
 
     private static void looksAtTheWholeGroupAndNoOther() {

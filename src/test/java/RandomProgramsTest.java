@@ -1,12 +1,10 @@
-import java.util.SplittableRandom;
-
 /** All promises: the program and the model answer the same on many made-up runs of calls. */
 public final class RandomProgramsTest {
     private static final int RUNS = 12000;
     private static final int[] EDGES = {
         0, 1, -1, 2, 3, 4, 5, 6, 7, 8, 15, 16, -16, 17, -17, Integer.MIN_VALUE, Integer.MAX_VALUE};
 
-    private final SplittableRandom random;
+    private final Dice dice;
     private final LoopFuser x;
     private final Model model;
     private final String name;
@@ -25,15 +23,15 @@ public final class RandomProgramsTest {
     private static int different = 0;
 
     private RandomProgramsTest(int seed) {
-        random = new SplittableRandom(seed);
+        dice = new Dice(seed);
         name = "seed " + seed + ": ";
-        arrays = random.nextInt(1, 8);
-        length = random.nextInt(3, 18);
+        arrays = dice.between(1, 7);
+        length = dice.between(3, 17);
         x = new LoopFuser(arrays, length);
         model = new Model(arrays, length);
-        coef = random.nextInt(4) == 0 ? random.nextInt(-2, 3) : 1;
-        offset = coef < 0 ? random.nextInt(17) : random.nextInt(3);
-        spread = random.nextInt(3, 20);
+        coef = dice.below(4) == 0 ? dice.between(-2, 2) : 1;
+        offset = coef < 0 ? dice.below(17) : dice.below(3);
+        spread = dice.between(3, 19);
         newBounds();
     }
 
@@ -52,7 +50,7 @@ public final class RandomProgramsTest {
 
     private void go() {
         fillInit();
-        int calls = random.nextInt(60);
+        int calls = dice.below(60);
         for (int call = 0; call < calls && wrong == 0; call++) {
             build();
         }
@@ -79,45 +77,45 @@ public final class RandomProgramsTest {
     }
 
     private void newBounds() {
-        lo = random.nextInt(16);
-        hi = random.nextInt(8) == 0 ? random.nextInt(16) : Math.min(15, lo + random.nextInt(9));
-        lo = random.nextInt(3) == 0 ? lo : random.nextInt(2);
+        lo = dice.below(16);
+        hi = dice.below(8) == 0 ? dice.below(16) : Math.min(15, lo + dice.below(9));
+        lo = dice.below(3) == 0 ? lo : dice.below(2);
     }
 
     private int wild(int value) {
-        return random.nextInt(60) == 0 ? EDGES[random.nextInt(EDGES.length)] : value;
+        return dice.below(60) == 0 ? EDGES[dice.below(EDGES.length)] : value;
     }
 
     private int anyArray() {
-        return wild(random.nextInt(Math.min(6, Math.max(2, arrays))));
+        return wild(dice.below(Math.min(6, Math.max(2, arrays))));
     }
 
     private int anyCoef() {
-        return wild(random.nextInt(spread) == 0 ? random.nextInt(-2, 3) : coef);
+        return wild(dice.below(spread) == 0 ? dice.between(-2, 2) : coef);
     }
 
     private int anyOffset() {
-        int kind = random.nextInt(3 * spread);
+        int kind = dice.below(3 * spread);
         if (kind > 2) {
             return wild(offset);
         }
-        return wild(kind < 2 ? offset + random.nextInt(-2, 3) : random.nextInt(-16, 17));
+        return wild(kind < 2 ? offset + dice.between(-2, 2) : dice.between(-16, 16));
     }
 
     private int anyValue() {
-        int kind = random.nextInt(4);
+        int kind = dice.below(4);
         if (kind == 0) {
-            return random.nextInt();
+            return dice.any();
         }
-        return kind == 1 ? EDGES[random.nextInt(EDGES.length)] : random.nextInt(-9, 10);
+        return kind == 1 ? EDGES[dice.below(EDGES.length)] : dice.between(-9, 9);
     }
 
     private void build() {
-        int kind = random.nextInt(10);
+        int kind = dice.below(10);
         if (kind < 2) {
             addLoop();
         } else if (kind < 5) {
-            int op = wild(random.nextInt(3));
+            int op = wild(dice.below(3));
             int array = anyArray();
             int c = anyCoef();
             int o = anyOffset();
@@ -129,7 +127,7 @@ public final class RandomProgramsTest {
             setValueOperand();
         } else if (kind < 9) {
             int array = anyArray();
-            boolean temp = random.nextInt(4) != 0;
+            boolean temp = dice.below(4) != 0;
             expect("setTemp", x.setTemp(array, temp), model.setTemp(array, temp));
         } else {
             setInit();
@@ -137,7 +135,7 @@ public final class RandomProgramsTest {
     }
 
     private void addLoop() {
-        if (random.nextInt(4) == 0) {
+        if (dice.below(4) == 0) {
             newBounds();
         }
         int low = wild(lo);
@@ -146,7 +144,7 @@ public final class RandomProgramsTest {
     }
 
     private void setArrayOperand() {
-        int which = wild(random.nextInt(2));
+        int which = wild(dice.below(2));
         int array = anyArray();
         int c = anyCoef();
         int o = anyOffset();
@@ -155,8 +153,8 @@ public final class RandomProgramsTest {
     }
 
     private void setValueOperand() {
-        int which = wild(random.nextInt(2));
-        int kind = wild(random.nextInt(2));
+        int which = wild(dice.below(2));
+        int kind = wild(dice.below(2));
         int value = anyValue();
         expect("setValueOperand", x.setValueOperand(which, kind, value),
                 model.setValueOperand(which, kind, value));
@@ -164,7 +162,7 @@ public final class RandomProgramsTest {
 
     private void setInit() {
         int array = anyArray();
-        int index = wild(random.nextInt(Math.min(16, Math.max(4, length))));
+        int index = wild(dice.below(Math.min(16, Math.max(4, length))));
         int value = anyValue();
         expect("setInit", x.setInit(array, index, value), model.setInit(array, index, value));
     }
@@ -172,7 +170,7 @@ public final class RandomProgramsTest {
     private void fillInit() {
         for (int array = 0; array < 6; array++) {
             for (int index = 0; index < 16; index++) {
-                int value = random.nextInt(-99, 100);
+                int value = dice.between(-99, 99);
                 expect("setInit", x.setInit(array, index, value), model.setInit(array, index, value));
             }
         }

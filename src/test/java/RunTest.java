@@ -18,6 +18,7 @@ public final class RunTest {
         startsFromInitEveryTime();
         keepsResultsWhereLoopsMayNotFuse();
         runsLoopsWithoutStatements();
+        runsTheGreatestProgram();
         Check.end();
     }
 
@@ -210,5 +211,27 @@ public final class RunTest {
         analyzeAndRun("without statements", x);
         expect("without statements", x, 0, 1, 2, 3, 4);
         expect("without statements", x, 1, 0, 2, 3, 0);
+    }
+
+    private static void runsTheGreatestProgram() {
+        LoopFuser x = new LoopFuser(6, 16);
+        for (int array = 0; array < 6; array++) {
+            x.setTemp(array, true);
+        }
+        for (int stmt = 0; stmt < 12; stmt++) {
+            if (stmt < 8) {
+                x.addLoop(0, 15);
+            }
+            x.addStatement(LoopFuser.OP_ADD, 4, 1, 0);
+            x.setArrayOperand(0, 4, 1, 0);
+            x.setValueOperand(1, LoopFuser.OPND_INDEX, 0);
+        }
+        analyzeAndRun("the greatest program", x);
+        Check.equal("its groups", x.query(LoopFuser.Q_GROUPS), 1);
+        Check.equal("its contracted arrays", x.query(LoopFuser.Q_CONTRACTED), 0);
+        for (int index = 0; index < 16; index++) {
+            Check.equal("its original " + index, x.getOriginal(4, index), 12 * index);
+            Check.equal("its fused " + index, x.getFused(4, index), 12 * index);
+        }
     }
 }
