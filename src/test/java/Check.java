@@ -1,21 +1,45 @@
 import java.util.ArrayList;
+import java.util.HashMap;
 import java.util.List;
 import java.util.Map;
-import java.util.TreeMap;
+import java.util.function.ToIntFunction;
 
 /** Counts and prints what is not as due, and compares all that an object shows. */
 final class Check {
+    private record Shown(String name, ToIntFunction<LoopFuser> get) {
+    }
+
+    private static final List<Shown> ALL = all();
+    private static final Map<String, Integer> PLACES = places();
+
+    private static String sentence = "";
+    private static int sentences = 0;
     private static int checks = 0;
     private static int wrong = 0;
 
     private Check() {
     }
 
+    /** One sentence of the document and the test that fails if just this sentence is broken. */
+    static void sentence(String text, Runnable test) {
+        sentence = text;
+        sentences++;
+        int before = checks;
+        try {
+            test.run();
+        } catch (RuntimeException thrown) {
+            tell("a call threw " + thrown);
+        }
+        if (checks == before) {
+            tell("nothing was checked");
+        }
+        sentence = "";
+    }
+
     static void equal(String what, long got, long due) {
         checks++;
         if (got != due) {
-            wrong++;
-            System.out.println(what + " answered " + got + ", due is " + due);
+            tell(what + " answered " + got + ", due is " + due);
         }
     }
 
@@ -27,74 +51,100 @@ final class Check {
         equal(what, got ? 1 : 0, 0);
     }
 
-    /** Everything the object shows, wrong arguments included, under the text of the call. */
-    static Map<String, Integer> state(LoopFuser x) {
-        Map<String, Integer> shown = new TreeMap<>();
-        for (int what = -1; what <= 8; what++) {
-            shown.put("query " + what, x.query(what));
-        }
-        for (int loop = -1; loop <= 8; loop++) {
-            for (int what = -1; what <= 7; what++) {
-                shown.put("loop " + loop + " " + what, x.loopInfo(loop, what));
-            }
-        }
-        for (int stmt = -1; stmt <= 12; stmt++) {
-            for (int what = -1; what <= 13; what++) {
-                shown.put("stmt " + stmt + " " + what, x.stmtInfo(stmt, what));
-            }
-        }
-        for (int array = -1; array <= 6; array++) {
-            for (int what = -1; what <= 2; what++) {
-                shown.put("array " + array + " " + what, x.arrayInfo(array, what));
-            }
-            for (int index = -1; index <= 16; index++) {
-                String cell = array + " " + index;
-                shown.put("init " + cell, x.getInit(array, index));
-                shown.put("original " + cell, x.getOriginal(array, index));
-                shown.put("fused " + cell, x.getFused(array, index));
-            }
+    /** Everything the object shows, the first wrong arguments on both sides included. */
+    static int[] state(LoopFuser x) {
+        int[] shown = new int[ALL.size()];
+        for (int place = 0; place < shown.length; place++) {
+            shown[place] = ALL.get(place).get.applyAsInt(x);
         }
         return shown;
     }
 
-    /** The object shows what it showed before, but for the changes told as "key: value". */
-    static void changed(String what, Map<String, Integer> before, LoopFuser x, String... changes) {
-        Map<String, Integer> due = new TreeMap<>(before);
+    /** The object shows what it showed before, but for the changes told as "name: value". */
+    static void changed(String what, int[] before, LoopFuser x, String... changes) {
+        int[] due = before.clone();
         for (String change : changes) {
             int colon = change.indexOf(": ");
-            String key = change.substring(0, colon);
-            if (!before.containsKey(key)) {
-                throw new IllegalArgumentException(change);
-            }
-            due.put(key, Integer.parseInt(change.substring(colon + 2)));
+            int place = PLACES.get(change.substring(0, colon));
+            due[place] = Integer.parseInt(change.substring(colon + 2));
         }
         same(what, state(x), due);
     }
 
-    static void unchanged(String what, Map<String, Integer> before, LoopFuser x) {
+    static void unchanged(String what, int[] before, LoopFuser x) {
         same(what, state(x), before);
     }
 
-    private static void same(String what, Map<String, Integer> got, Map<String, Integer> due) {
+    static void same(String what, int[] got, int[] due) {
         checks++;
-        if (got.equals(due)) {
-            return;
-        }
-        wrong++;
         List<String> differences = new ArrayList<>();
-        for (Map.Entry<String, Integer> entry : due.entrySet()) {
-            int shown = got.get(entry.getKey());
-            if (shown != entry.getValue()) {
-                differences.add(entry.getKey() + " is " + shown + ", due is " + entry.getValue());
+        for (int place = 0; place < due.length; place++) {
+            if (got[place] != due[place]) {
+                differences.add(ALL.get(place).name + " is " + got[place] + ", due is " + due[place]);
             }
         }
-        System.out.println(what + " leaves " + differences);
+        if (!differences.isEmpty()) {
+            tell(what + " leaves " + differences);
+        }
+    }
+
+    private static void tell(String what) {
+        wrong++;
+        System.out.println(sentence.isEmpty() ? what : "\"" + sentence + "\": " + what);
     }
 
     static void end() {
-        System.out.println(wrong + " of " + checks + " checks wrong");
+        System.out.println(wrong + " of " + checks + " checks wrong, " + sentences + " sentences");
         if (wrong != 0) {
             System.exit(1);
         }
+    }
+
+    private static List<Shown> all() {
+        List<Shown> list = new ArrayList<>();
+        for (int what = -1; what <= 8; what++) {
+            int w = what;
+            list.add(new Shown("query " + w, x -> x.query(w)));
+        }
+        for (int loop = -1; loop <= 8; loop++) {
+            for (int what = -1; what <= 7; what++) {
+                int l = loop;
+                int w = what;
+                list.add(new Shown("loop " + l + " " + w, x -> x.loopInfo(l, w)));
+            }
+        }
+        for (int stmt = -1; stmt <= 12; stmt++) {
+            for (int what = -1; what <= 13; what++) {
+                int s = stmt;
+                int w = what;
+                list.add(new Shown("stmt " + s + " " + w, x -> x.stmtInfo(s, w)));
+            }
+        }
+        for (int array = -1; array <= 6; array++) {
+            addArray(list, array);
+        }
+        return list;
+    }
+
+    private static void addArray(List<Shown> list, int array) {
+        for (int what = -1; what <= 2; what++) {
+            int w = what;
+            list.add(new Shown("array " + array + " " + w, x -> x.arrayInfo(array, w)));
+        }
+        for (int index = -1; index <= 16; index++) {
+            int n = index;
+            String cell = array + " " + n;
+            list.add(new Shown("init " + cell, x -> x.getInit(array, n)));
+            list.add(new Shown("original " + cell, x -> x.getOriginal(array, n)));
+            list.add(new Shown("fused " + cell, x -> x.getFused(array, n)));
+        }
+    }
+
+    private static Map<String, Integer> places() {
+        Map<String, Integer> map = new HashMap<>();
+        for (int place = 0; place < ALL.size(); place++) {
+            map.put(ALL.get(place).name, place);
+        }
+        return map;
     }
 }

@@ -1,22 +1,43 @@
-/** Promise 8: which arrays are contracted; promise 9: what a run leaves of them. */
+/** The section "Analysis" as to contraction, and the transformed program. */
 public final class ContractionTest {
+    private static final int A = 0;
     private static final int B = 1;
     private static final int C = 2;
     private static final int D = 3;
 
     public static void main(String[] args) {
-        contractsWhereAllHolds();
-        needsTemp();
-        needsAnAccess();
-        needsOneGroup();
-        needsTwoLoops();
-        needsEqualReferences();
-        needsCoefNotZero();
-        needsEveryCellInRange();
-        needsAWriteFirst();
-        countsSeveral();
-        keepsInitInFused();
+        conditions();
+        transformedProgram();
         Check.end();
+    }
+
+    private static void conditions() {
+        Check.sentence("for every array x, CONTRACTED(x) becomes true exactly when all of these hold",
+                ContractionTest::contractsWhereAllHolds);
+        Check.sentence("for every array x", ContractionTest::contractsEveryArray);
+        Check.sentence("TEMP(x)", ContractionTest::needsTemp);
+        Check.sentence("x has at least one access", ContractionTest::needsAnAccess);
+        Check.sentence("every statement with an access of x belongs to a loop of one same group",
+                ContractionTest::needsOneGroup);
+        Check.sentence("that group holds 2 or more loops", ContractionTest::needsTwoLoops);
+        Check.sentence("all accesses of x have the same coef", ContractionTest::needsEqualCoefs);
+        Check.sentence("and the same offset", ContractionTest::needsEqualOffsets);
+        Check.sentence("and that coef is not 0", ContractionTest::needsCoefNotZero);
+        Check.sentence("for every i with lo <= i <= hi of that group, coef*i+offset is in range",
+                ContractionTest::needsEveryCellInRange);
+        Check.sentence("the first access of x in the group's body order is a write",
+                ContractionTest::needsAWriteFirst);
+        Check.sentence("Body order: the group's loops in order, each loop's statements in order, each "
+                + "statement's accesses in its order", ContractionTest::bodyOrder);
+    }
+
+    private static void transformedProgram() {
+        Check.sentence("i from lo to hi ascending; in an iteration, the group's loops in order and "
+                + "each loop's statements in order", ContractionTest::runsGroupsInOrder);
+        Check.sentence("a read of x gives s(x) and a write of x sets s(x) := result",
+                ContractionTest::readsAndWritesScalars);
+        Check.sentence("no cell of x is read or written, so FUSED[x] keeps the INIT contents",
+                ContractionTest::keepsInitInFused);
     }
 
     private static int[] ref(int array, int coef, int offset) {
@@ -95,6 +116,45 @@ public final class ContractionTest {
         Programs.fillLoop(x, 0, 7, ref(B, 1, 0));
         Programs.copyLoop(x, 0, 7, ref(C, 1, 0), ref(B, 1, 0));
         expect("not temp", x, 1, false);
+
+        x = new LoopFuser(6, 8);
+        for (int array = 0; array < 6; array++) {
+            x.setTemp(array, array != B && array != C);
+        }
+        Programs.fillLoop(x, 0, 7, ref(B, 1, 0));
+        Programs.copyLoop(x, 0, 7, ref(C, 1, 0), ref(B, 1, 0));
+        expect("all others temp", x, 1, false);
+
+        x = new LoopFuser(6, 8);
+        Programs.fillLoop(x, 0, 7, ref(B, 1, 0));
+        Programs.copyLoop(x, 0, 7, ref(C, 1, 0), ref(B, 1, 0));
+        x.setTemp(B, true);
+        expect("temp told at the end", x, 1, true);
+    }
+
+    private static void contractsEveryArray() {
+        for (int arrays = 2; arrays <= 6; arrays++) {
+            for (int flags = 0; flags < 1 << arrays; flags++) {
+                LoopFuser x = new LoopFuser(arrays, 16);
+                Programs.fillInit(x);
+                for (int array = 0; array < arrays; array++) {
+                    x.setTemp(array, (flags >> array & 1) == 1);
+                    Programs.fillLoop(x, 0, 15, ref(array, 1, 0));
+                }
+                x.analyze();
+                Check.equal("run", x.run(), 0);
+                for (int array = 0; array < arrays; array++) {
+                    int due = flags >> array & 1;
+                    Check.equal("flag", x.arrayInfo(array, LoopFuser.A_CONTRACTED), due);
+                    for (int i = 0; i < 16; i++) {
+                        int fused = due == 1 ? 100 * (array + 1) + i : i + 1;
+                        Check.equal("original", x.getOriginal(array, i), i + 1);
+                        Check.equal("fused", x.getFused(array, i), fused);
+                    }
+                }
+                Check.equal("count", x.query(LoopFuser.Q_CONTRACTED), Integer.bitCount(flags));
+            }
+        }
     }
 
     private static void needsAnAccess() {
@@ -102,6 +162,26 @@ public final class ContractionTest {
         Programs.fillLoop(x, 0, 7, ref(C, 1, 0));
         Programs.copyLoop(x, 0, 7, ref(D, 1, 0), ref(C, 1, 0));
         expect("no access", x, 1, false);
+
+        x = withTemp();
+        x.addLoop(0, 7);
+        x.addLoop(0, 7);
+        expect("no statement", x, 1, false);
+
+        for (int kind = LoopFuser.OPND_CONST; kind <= LoopFuser.OPND_INDEX; kind++) {
+            x = withTemp();
+            Programs.fillLoop(x, 0, 7, ref(C, 1, 0));
+            x.addLoop(0, 7);
+            Programs.copy(x, ref(D, 1, 0), ref(B, 1, 0));
+            x.setValueOperand(0, kind, B);
+            expect("access replaced by a value", x, 1, false);
+        }
+
+        x = withTemp();
+        x.addLoop(0, 7);
+        x.addLoop(0, 7);
+        x.addStatement(LoopFuser.OP_ADD, B, 1, 0);
+        expect("one access", x, 1, true);
     }
 
     private static void needsOneGroup() {
@@ -122,9 +202,32 @@ public final class ContractionTest {
         Programs.copyLoop(x, 0, 7, ref(C, 1, 0), ref(B, 1, 0));
         Programs.copyLoop(x, 7, 0, ref(D, 1, 0), ref(B, 1, 0));
         expect("read in a later group that runs no iteration", x, 2, false);
+
+        x = withTemp();
+        Programs.fillLoop(x, 0, 7, ref(B, 1, 0));
+        Programs.copyLoop(x, 0, 7, ref(C, 1, 0), ref(B, 1, 0));
+        x.addLoop(0, 7);
+        x.addStatement(LoopFuser.OP_ADD, D, 1, 0);
+        x.setArrayOperand(0, C, 1, 1);
+        x.setArrayOperand(1, B, 1, 0);
+        expect("read in a later group with the same bounds", x, 2, false);
+
+        x = withTemp();
+        Programs.fillLoop(x, 0, 7, ref(B, 1, 0));
+        Programs.copyLoop(x, 0, 7, ref(C, 1, 0), ref(B, 1, 0));
+        Programs.copyLoop(x, 0, 7, ref(D, 1, 0), ref(C, 1, 1));
+        expect("a later group without it", x, 2, true);
     }
 
     private static void needsTwoLoops() {
+        for (int loops = 1; loops <= 8; loops++) {
+            LoopFuser x = withTemp();
+            Programs.fillLoop(x, 0, 7, ref(B, 1, 0));
+            for (int loop = 1; loop < loops; loop++) {
+                x.addLoop(0, 7);
+            }
+            expect(loops + " loops", x, 1, loops >= 2);
+        }
         LoopFuser x = withTemp();
         x.addLoop(0, 7);
         x.addStatement(LoopFuser.OP_ADD, B, 1, 0);
@@ -142,17 +245,44 @@ public final class ContractionTest {
         expect("one loop between groups of two", x, 3, false);
     }
 
-    private static void needsEqualReferences() {
-        writeThenRead("other offset", 1, 6, ref(B, 1, 0), ref(B, 1, -1), false);
+    private static void needsEqualCoefs() {
         writeThenRead("other coef", 0, 3, ref(B, 2, 0), ref(B, 1, 0), false);
         writeThenRead("other coef, no iteration", 3, 0, ref(B, 2, 0), ref(B, 1, 0), false);
-        writeThenRead("other offset, no iteration", 3, 0, ref(B, 1, 1), ref(B, 1, 0), false);
+        // With offset 0 every coef names cell 0 in the only iteration, 0.
+        for (int coef = -2; coef <= 2; coef++) {
+            for (int coef2 = -2; coef2 <= 2; coef2++) {
+                boolean due = coef == coef2 && coef != 0;
+                writeThenRead("one cell by coefs", 0, 0, ref(B, coef, 0), ref(B, coef2, 0), due);
+            }
+        }
+    }
 
+    private static void needsEqualOffsets() {
+        writeThenRead("other offset", 1, 6, ref(B, 1, 0), ref(B, 1, -1), false);
+        writeThenRead("other offset, no iteration", 3, 0, ref(B, 1, 1), ref(B, 1, 0), false);
+        for (int offset = -16; offset <= 16; offset++) {
+            writeThenRead("no iteration", 3, 0, ref(B, 1, 3), ref(B, 1, offset), offset == 3);
+            writeThenRead("no iteration", 3, 0, ref(B, -2, 16), ref(B, -2, offset), offset == 16);
+            writeThenRead("no iteration", 3, 0, ref(B, 2, -16), ref(B, 2, offset), offset == -16);
+        }
+        for (int which = 0; which <= 1; which++) {
+            LoopFuser x = withTemp();
+            Programs.fillLoop(x, 1, 6, ref(B, 1, 0));
+            x.addLoop(1, 6);
+            x.addStatement(LoopFuser.OP_ADD, C, 1, 0);
+            x.setArrayOperand(which, B, 1, 0);
+            x.setArrayOperand(1 - which, B, 1, -1);
+            expect("other offset of operand " + (1 - which), x, 1, false);
+        }
         LoopFuser x = withTemp();
         Programs.fillLoop(x, 1, 6, ref(B, 1, 0));
+        Programs.fillLoop(x, 1, 6, ref(B, 1, -1));
+        expect("other offset of a write", x, 1, false);
+        x = withTemp();
+        Programs.fillLoop(x, 1, 6, ref(B, 1, 0));
         Programs.copyLoop(x, 1, 6, ref(C, 1, 0), ref(B, 1, 0));
-        x.setArrayOperand(1, B, 1, -1);
-        expect("other offset of the last operand", x, 1, false);
+        Programs.copyLoop(x, 1, 6, ref(D, 1, 0), ref(B, 1, -1));
+        expect("other offset of the last read", x, 1, false);
     }
 
     private static void needsCoefNotZero() {
@@ -168,6 +298,32 @@ public final class ContractionTest {
         writeThenRead("down below the first cell", 0, 7, ref(B, -1, 6), ref(B, -1, 6), false);
         writeThenRead("no iteration", 7, 0, ref(B, 2, 16), ref(B, 2, 16), true);
         writeThenRead("no iteration, below", 1, 0, ref(B, -2, -16), ref(B, -2, -16), true);
+        for (int length = 4; length <= 16; length++) {
+            for (int lo = 0; lo <= 15; lo++) {
+                for (int hi = 0; hi <= 15; hi++) {
+                    everyReference(length, lo, hi);
+                }
+            }
+        }
+    }
+
+    private static void everyReference(int length, int lo, int hi) {
+        for (int coef = -2; coef <= 2; coef++) {
+            for (int offset = -16; coef != 0 && offset <= 16; offset++) {
+                LoopFuser x = new LoopFuser(2, length);
+                x.setTemp(B, true);
+                Programs.fillLoop(x, lo, hi, ref(B, coef, offset));
+                x.addLoop(lo, hi);
+                x.analyze();
+                // The cells go one way, so all are in range if the two at the ends are.
+                int first = coef * lo + offset;
+                int last = coef * hi + offset;
+                boolean inRange = first >= 0 && first < length && last >= 0 && last < length;
+                int due = lo > hi || inRange ? 1 : 0;
+                Check.equal(coef + "*i+" + offset + " for " + lo + ".." + hi + " of " + length,
+                        x.arrayInfo(B, LoopFuser.A_CONTRACTED), due);
+            }
+        }
     }
 
     private static void needsAWriteFirst() {
@@ -190,6 +346,84 @@ public final class ContractionTest {
         Programs.copyLoop(x, 0, 7, ref(C, 1, 0), ref(B, 1, 0));
         x.addLoop(0, 7);
         expect("only read", x, 1, false);
+    }
+
+    private static void bodyOrder() {
+        LoopFuser x = withTemp();
+        x.addLoop(0, 7);
+        Programs.copy(x, ref(C, 1, 0), ref(B, 1, 0));
+        x.addStatement(LoopFuser.OP_ADD, B, 1, 0);
+        x.addLoop(0, 7);
+        expect("read in the statement before", x, 1, false);
+
+        x = withTemp();
+        x.addLoop(0, 7);
+        x.addStatement(LoopFuser.OP_ADD, B, 1, 0);
+        Programs.copy(x, ref(C, 1, 0), ref(B, 1, 0));
+        x.addLoop(0, 7);
+        expect("read in the statement after", x, 1, true);
+
+        x = withTemp();
+        x.addLoop(0, 7);
+        Programs.copyLoop(x, 0, 7, ref(C, 1, 0), ref(B, 1, 0));
+        x.addLoop(0, 7);
+        Programs.fillLoop(x, 0, 7, ref(B, 1, 0));
+        Programs.copyLoop(x, 0, 7, ref(D, 1, 0), ref(B, 1, 0));
+        expect("read in the loop before", x, 1, false);
+
+        x = withTemp();
+        x.addLoop(0, 7);
+        x.addStatement(LoopFuser.OP_ADD, B, 1, 0);
+        x.addStatement(LoopFuser.OP_ADD, B, 1, 0);
+        x.setArrayOperand(0, B, 1, 0);
+        x.setArrayOperand(1, B, 1, 0);
+        Programs.copyLoop(x, 0, 7, ref(D, 1, 0), ref(B, 1, 0));
+        expect("read by a later write", x, 1, true);
+    }
+
+    private static void runsGroupsInOrder() {
+        // B[i] needs A[i] of this iteration, A[i-1] of the one before, and its own first value.
+        LoopFuser x = new LoopFuser(4, 4);
+        Programs.fillInit(x);
+        x.addLoop(0, 3);
+        Programs.copy(x, ref(A, 1, 0), ref(C, 1, -1));
+        x.addLoop(0, 3);
+        x.addStatement(LoopFuser.OP_ADD, B, 1, 0);
+        x.setArrayOperand(0, A, 1, 0);
+        x.setArrayOperand(1, A, 1, -1);
+        x.addStatement(LoopFuser.OP_MUL, B, 1, 0);
+        x.setArrayOperand(0, B, 1, 0);
+        x.setValueOperand(1, LoopFuser.OPND_INDEX, 2);
+        Programs.copyLoop(x, 0, 2, ref(D, 1, 1), ref(D, 1, 0));
+        Check.equal("order: groups", x.analyze(), 2);
+        Check.equal("order: run", x.run(), 0);
+        int[][] due = {
+            {0, 300, 301, 302}, {0, 900, 2404, 3015}, {300, 301, 302, 303}, {400, 400, 400, 400}};
+        for (int array = 0; array < 4; array++) {
+            for (int index = 0; index < 4; index++) {
+                Check.equal("order", x.getOriginal(array, index), due[array][index]);
+                Check.equal("order, fused", x.getFused(array, index), due[array][index]);
+            }
+        }
+    }
+
+    private static void readsAndWritesScalars() {
+        countsSeveral();
+        // Written anew in every iteration, read twice, changed in between.
+        LoopFuser x = withTemp();
+        Programs.fillLoop(x, 0, 7, ref(B, -1, 7));
+        Programs.copyLoop(x, 0, 7, ref(C, 1, 0), ref(B, -1, 7));
+        x.addLoop(0, 7);
+        x.addStatement(LoopFuser.OP_MUL, B, -1, 7);
+        x.setArrayOperand(0, B, -1, 7);
+        x.setArrayOperand(1, B, -1, 7);
+        Programs.copyLoop(x, 0, 7, ref(D, 1, 0), ref(B, -1, 7));
+        expect("scalar", x, 1, true);
+        for (int i = 0; i < 8; i++) {
+            Check.equal("scalar", x.getFused(C, i), i + 1);
+            Check.equal("scalar squared", x.getFused(D, i), (i + 1) * (i + 1));
+            Check.equal("array squared", x.getOriginal(B, 7 - i), (i + 1) * (i + 1));
+        }
     }
 
     private static void countsSeveral() {
@@ -227,6 +461,14 @@ public final class ContractionTest {
             Check.equal("contracted, fused " + index, x.getFused(2, index), fused[index]);
             Check.equal("result, original " + index, x.getOriginal(1, index), results[index]);
             Check.equal("result, fused " + index, x.getFused(1, index), results[index]);
+        }
+        for (int value : Values.any()) {
+            x.setInit(2, 4, value);
+            Check.equal("fused before the run", x.getFused(2, 4), fused[4]);
+            x.run();
+            Check.equal("fused after the run", x.getFused(2, 4), value);
+            Check.equal("original after the run", x.getOriginal(2, 4), 8);
+            fused[4] = value;
         }
     }
 }

@@ -30,14 +30,18 @@ public final class FaceTest {
         "S_KIND0=5", "S_ARRAY0=6", "S_COEF0=7", "S_VALUE0=8",
         "S_KIND1=9", "S_ARRAY1=10", "S_COEF1=11", "S_VALUE1=12", "A_TEMP=0", "A_CONTRACTED=1"};
 
-    public static void main(String[] args) throws IllegalAccessException {
+    public static void main(String[] args) {
+        Check.sentence("public final class LoopFuser", FaceTest::theClass);
+        Check.sentence("The public face", FaceTest::methods);
+        Check.sentence("each declared `public static final int` in the class", FaceTest::constants);
+        Check.sentence("public LoopFuser(int arrays, int length)", FaceTest::constructors);
+        Check.end();
+    }
+
+    private static void theClass() {
         int modifiers = LoopFuser.class.getModifiers();
         Check.isTrue("public final", Modifier.isPublic(modifiers) && Modifier.isFinal(modifiers));
         Check.equal("nested classes", LoopFuser.class.getDeclaredClasses().length, 0);
-        methods();
-        constants();
-        constructors();
-        Check.end();
     }
 
     private static boolean isHidden(Member member) {
@@ -71,14 +75,22 @@ public final class FaceTest {
         }
     }
 
-    private static void constants() throws IllegalAccessException {
+    private static int value(Field field) {
+        try {
+            return field.getInt(null);
+        } catch (IllegalAccessException hidden) {
+            throw new IllegalStateException(hidden);
+        }
+    }
+
+    private static void constants() {
         Set<String> shown = new TreeSet<>();
         for (Field field : LoopFuser.class.getDeclaredFields()) {
             if (!isHidden(field)) {
                 int due = Modifier.PUBLIC | Modifier.STATIC | Modifier.FINAL;
                 Check.equal("modifiers of " + field, field.getModifiers(), due);
                 Check.isTrue(field + " is int", field.getType() == int.class);
-                shown.add(field.getName() + "=" + field.getInt(null));
+                shown.add(field.getName() + "=" + value(field));
             }
         }
         same("constants", shown, CONSTANTS);

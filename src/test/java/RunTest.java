@@ -1,24 +1,36 @@
-import java.util.Map;
+import java.util.ArrayList;
+import java.util.List;
+import java.util.function.Supplier;
 
-/** Promise 9, with "Execution" of the document. */
+/** Promise 9. */
 public final class RunTest {
-    private static final int MIN = Integer.MIN_VALUE;
-    private static final int MAX = Integer.MAX_VALUE;
-
     public static void main(String[] args) {
-        isRefusedWhileBuilding();
-        runsNothing();
-        changesOnlyResults();
-        computesAndWraps();
-        readsZeroOutOfRange();
-        dropsWritesOutOfRange();
-        goesUpwards();
-        keepsTheOrderOfStatements();
-        runsNoIterationOfEmptyLoops();
-        startsFromInitEveryTime();
-        keepsResultsWhereLoopsMayNotFuse();
-        runsLoopsWithoutStatements();
-        runsTheGreatestProgram();
+        Check.sentence("`run()` is refused (answers -1) if the phase is `PHASE_BUILD`",
+                RunTest::isRefusedWhileBuilding);
+        Check.sentence("ORIG := INIT and the original program runs on ORIG; FUSED := INIT",
+                RunTest::startsFromInitEveryTime);
+        Check.sentence("every scalar := 0", RunTest::scalarsDoNotOutliveARun);
+        Check.sentence("the run count grows by 1", RunTest::countsRuns);
+        Check.sentence("INIT, loops, statements, flags and the phase do not change",
+                RunTest::changesOnlyResults);
+        Check.sentence("ORIG of a contracted array is computed by the original program like any "
+                + "other; FUSED of a contracted array keeps the INIT contents",
+                RunTest::contractedArrays);
+        Check.sentence("It answers the number of pairs (x, n), x in 0..A-1 with CONTRACTED(x) false "
+                + "and n in 0..N-1, such that ORIG[x][n] != FUSED[x][n]",
+                RunTest::contractedArraysDoNotCount);
+        Check.sentence("the transformed program leaves every array that is not contracted exactly as "
+                + "the original program does", RunTest::keepsResultsWhereLoopsMayNotFuse);
+        Check.sentence("every call of `run()` answers either -1 (refused, in `PHASE_BUILD`) or 0",
+                RunTest::answersZero);
+        Check.sentence("At every point of every sequence of calls, for every array x with "
+                + "`arrayInfo(x, A_CONTRACTED) == 0` and every n in 0..N-1, "
+                + "`getOriginal(x, n) == getFused(x, n)`", RunTest::resultsAreEqualAtEveryPoint);
+        Check.sentence("0 if L == 0", RunTest::runsNothing);
+        Check.sentence("if lo > hi it runs no iteration", RunTest::runsNoIterationOfEmptyLoops);
+        Check.sentence("a loop with bounds lo, hi and no statements",
+                RunTest::runsLoopsWithoutStatements);
+        Check.sentence("`MAX_LOOPS = 8`, `MAX_STATEMENTS = 12`", RunTest::runsTheGreatestProgram);
         Check.end();
     }
 
@@ -35,140 +47,19 @@ public final class RunTest {
     }
 
     private static void isRefusedWhileBuilding() {
-        for (LoopFuser x : new LoopFuser[] {new LoopFuser(2, 4), Programs.built()}) {
-            Map<String, Integer> before = Check.state(x);
-            Check.equal("early run", x.run(), -1);
-            Check.unchanged("early run", before, x);
+        for (Supplier<LoopFuser> building : Programs.building()) {
+            Twins.unseen("early run", building, LoopFuser::run, -1);
         }
-    }
-
-    private static void runsNothing() {
+        for (int arrays = 2; arrays <= 6; arrays++) {
+            for (int length = 4; length <= 16; length++) {
+                int a = arrays;
+                int n = length;
+                Twins.unseen("early run", () -> new LoopFuser(a, n), LoopFuser::run, -1);
+            }
+        }
         LoopFuser x = new LoopFuser(2, 4);
-        x.setInit(1, 3, 7);
         x.analyze();
-        Map<String, Integer> before = Check.state(x);
-        Check.equal("run of nothing", x.run(), 0);
-        Check.changed("run of nothing", before, x, "query 5: 1", "original 1 3: 7", "fused 1 3: 7");
-    }
-
-    private static void changesOnlyResults() {
-        LoopFuser x = Programs.analyzed();
-        Map<String, Integer> before = Check.state(x);
-        Check.equal("run", x.run(), 0);
-        Check.changed("run", before, x, "query 5: 1",
-                "original 0 1: 10", "original 0 3: 20", "fused 0 1: 10", "fused 0 3: 20",
-                "original 1 4: 24", "original 1 5: 81", "original 1 6: 48", "original 1 7: 15",
-                "fused 1 4: 24", "fused 1 5: 81", "fused 1 6: 48", "fused 1 7: 15",
-                "original 2 1: 5", "original 2 2: 16", "original 2 3: 27", "original 2 4: 8",
-                "fused 2 1: 77", "original 3 7: -4", "fused 3 7: -4");
-        before = Check.state(x);
-        Check.equal("second run", x.run(), 0);
-        Check.changed("second run", before, x, "query 5: 2");
-    }
-
-    private static void computes(int op, int kind0, int value0, int kind1, int value1, int due) {
-        LoopFuser x = new LoopFuser(2, 4);
-        x.addLoop(3, 3);
-        x.addStatement(op, 0, 1, -1);
-        x.setValueOperand(0, kind0, value0);
-        x.setValueOperand(1, kind1, value1);
-        String name = "op " + op + " of " + kind0 + ":" + value0 + " and " + kind1 + ":" + value1;
-        analyzeAndRun(name, x);
-        expect(name, x, 0, 0, 0, due, 0);
-    }
-
-    private static void computesAndWraps() {
-        int constant = LoopFuser.OPND_CONST;
-        int index = LoopFuser.OPND_INDEX;
-        computes(LoopFuser.OP_ADD, constant, 7, constant, -9, -2);
-        computes(LoopFuser.OP_SUB, constant, 7, constant, -9, 16);
-        computes(LoopFuser.OP_SUB, constant, -9, constant, 7, -16);
-        computes(LoopFuser.OP_MUL, constant, 7, constant, -9, -63);
-        computes(LoopFuser.OP_ADD, constant, MAX, constant, 1, MIN);
-        computes(LoopFuser.OP_SUB, constant, MIN, constant, 1, MAX);
-        computes(LoopFuser.OP_MUL, constant, MAX, constant, MAX, 1);
-        computes(LoopFuser.OP_MUL, constant, MIN, constant, -1, MIN);
-        computes(LoopFuser.OP_MUL, constant, 65536, constant, 65536, 0);
-        computes(LoopFuser.OP_ADD, index, 0, constant, 10, 13);
-        computes(LoopFuser.OP_SUB, constant, 10, index, 2, 5);
-        computes(LoopFuser.OP_ADD, index, MAX, constant, 0, MIN + 2);
-        computes(LoopFuser.OP_ADD, index, MIN, constant, 0, MIN + 3);
-        computes(LoopFuser.OP_MUL, index, -3, index, 100, 0);
-    }
-
-    private static void readsZeroOutOfRange() {
-        LoopFuser x = new LoopFuser(3, 4);
-        for (int array = 0; array < 3; array++) {
-            for (int index = 0; index < 4; index++) {
-                x.setInit(array, index, 10 * array + index + 1);
-            }
-        }
-        x.addLoop(0, 3);
-        x.addStatement(LoopFuser.OP_ADD, 0, 1, 0);
-        x.setArrayOperand(0, 1, 2, -1);
-        x.setArrayOperand(1, 2, -1, 4);
-        analyzeAndRun("reads out of range", x);
-        expect("reads out of range", x, 0, 0, 12 + 24, 14 + 23, 22);
-        expect("the array read", x, 1, 11, 12, 13, 14);
-    }
-
-    private static void dropsWritesOutOfRange() {
-        LoopFuser x = new LoopFuser(3, 4);
-        for (int array = 0; array < 3; array++) {
-            for (int index = 0; index < 4; index++) {
-                x.setInit(array, index, 50);
-            }
-        }
-        x.addLoop(0, 15);
-        x.addStatement(LoopFuser.OP_ADD, 1, 2, -7);
-        x.setValueOperand(0, LoopFuser.OPND_INDEX, 0);
-        x.addStatement(LoopFuser.OP_ADD, 1, 0, 4);
-        x.addStatement(LoopFuser.OP_ADD, 1, 0, -1);
-        analyzeAndRun("writes out of range", x);
-        expect("writes out of range", x, 0, 50, 50, 50, 50);
-        expect("writes out of range", x, 1, 50, 4, 50, 5);
-        expect("writes out of range", x, 2, 50, 50, 50, 50);
-    }
-
-    private static void goesUpwards() {
-        LoopFuser x = new LoopFuser(2, 5);
-        x.setInit(0, 0, 1);
-        x.addLoop(1, 4);
-        x.addStatement(LoopFuser.OP_MUL, 0, 1, 0);
-        x.setArrayOperand(0, 0, 1, -1);
-        x.setValueOperand(1, LoopFuser.OPND_INDEX, 0);
-        x.addStatement(LoopFuser.OP_ADD, 1, 0, 0);
-        x.setValueOperand(0, LoopFuser.OPND_INDEX, 0);
-        analyzeAndRun("factorials", x);
-        expect("factorials", x, 0, 1, 1, 2, 6, 24);
-        expect("last iteration", x, 1, 4, 0, 0, 0, 0);
-    }
-
-    private static void keepsTheOrderOfStatements() {
-        LoopFuser x = new LoopFuser(4, 4);
-        x.addLoop(0, 2);
-        x.addStatement(LoopFuser.OP_ADD, 0, 1, 0);
-        x.setValueOperand(0, LoopFuser.OPND_INDEX, 1);
-        x.addStatement(LoopFuser.OP_MUL, 0, 1, 0);
-        x.setArrayOperand(0, 0, 1, 0);
-        x.setArrayOperand(1, 0, 1, 0);
-        x.addLoop(0, 2);
-        x.addStatement(LoopFuser.OP_SUB, 1, 1, 1);
-        x.setArrayOperand(0, 0, 1, 0);
-        x.setArrayOperand(1, 1, 1, 0);
-        analyzeAndRun("order", x);
-        Check.equal("order: groups", x.query(LoopFuser.Q_GROUPS), 1);
-        expect("order", x, 0, 1, 4, 9, 0);
-        expect("order", x, 1, 0, 1, 3, 6);
-    }
-
-    private static void runsNoIterationOfEmptyLoops() {
-        LoopFuser x = new LoopFuser(2, 4);
-        x.setInit(0, 0, 9);
-        Programs.fillLoop(x, 1, 0, Programs.ref(0, 1, 0));
-        Programs.fillLoop(x, 15, 0, Programs.ref(0, 0, 0));
-        analyzeAndRun("no iteration", x);
-        expect("no iteration", x, 0, 9, 0, 0, 0);
+        Check.equal("run as soon as analyzed", x.run(), 0);
     }
 
     private static void startsFromInitEveryTime() {
@@ -181,12 +72,121 @@ public final class RunTest {
         x.analyze();
         for (int n = 1; n <= 3; n++) {
             Check.equal("run " + n, x.run(), 0);
-            Check.equal("runs", x.query(LoopFuser.Q_RUNS), n);
             expect("run " + n, x, 0, 1, 1, 6, 1);
         }
         x.setInit(0, 2, -1);
         Check.equal("run from other contents", x.run(), 0);
         expect("run from other contents", x, 0, 1, 1, 0, 1);
+        for (int arrays = 2; arrays <= 6; arrays++) {
+            for (int length = 4; length <= 16; length++) {
+                loadsEveryCell(arrays, length);
+            }
+        }
+    }
+
+    private static void loadsEveryCell(int arrays, int length) {
+        LoopFuser x = new LoopFuser(arrays, length);
+        x.analyze();
+        for (int round = 0; round < 2; round++) {
+            for (int array = 0; array < arrays; array++) {
+                for (int index = 0; index < length; index++) {
+                    x.setInit(array, index, 1000 * round + 20 * array + index);
+                }
+            }
+            Check.equal("run", x.run(), 0);
+            for (int array = 0; array < arrays; array++) {
+                for (int index = 0; index < length; index++) {
+                    int due = 1000 * round + 20 * array + index;
+                    Check.equal("original", x.getOriginal(array, index), due);
+                    Check.equal("fused", x.getFused(array, index), due);
+                }
+            }
+        }
+    }
+
+    /** By condition (e) a scalar is written before it is read, so only stale ones could be seen. */
+    private static void scalarsDoNotOutliveARun() {
+        LoopFuser x = Programs.analyzed();
+        for (int value : Values.any()) {
+            x.setInit(0, 1, value);
+            Check.equal("run", x.run(), 0);
+            int due = (value + 6) * 3;
+            Check.equal("original", x.getOriginal(1, 6), due);
+            Check.equal("fused", x.getFused(1, 6), due);
+        }
+    }
+
+    private static void countsRuns() {
+        LoopFuser x = Programs.built();
+        x.run();
+        Check.equal("a refused run", x.query(LoopFuser.Q_RUNS), 0);
+        x.analyze();
+        Check.equal("no run", x.query(LoopFuser.Q_RUNS), 0);
+        // More than a short could count.
+        for (int n = 1; n <= 70000; n++) {
+            Check.equal("run", x.run(), 0);
+            Check.equal("Q_RUNS", x.query(LoopFuser.Q_RUNS), n);
+        }
+        Check.equal("the last run", x.getFused(1, 6), 48);
+    }
+
+    private static void changesOnlyResults() {
+        LoopFuser x = Programs.analyzed();
+        int[] before = Check.state(x);
+        Check.equal("run", x.run(), 0);
+        Check.changed("run", before, x, "query 5: 1",
+                "original 0 1: 10", "original 0 3: 20", "fused 0 1: 10", "fused 0 3: 20",
+                "original 1 4: 24", "original 1 5: 81", "original 1 6: 48", "original 1 7: 15",
+                "fused 1 4: 24", "fused 1 5: 81", "fused 1 6: 48", "fused 1 7: 15",
+                "original 2 1: 5", "original 2 2: 16", "original 2 3: 27", "original 2 4: 8",
+                "fused 2 1: 77", "original 3 7: -4", "fused 3 7: -4");
+        for (Supplier<LoopFuser> late : Programs.late()) {
+            LoopFuser y = late.get();
+            y.run();
+            before = Check.state(y);
+            int runs = y.query(LoopFuser.Q_RUNS);
+            Check.equal("run again", y.run(), 0);
+            Check.changed("run again", before, y, "query 5: " + (runs + 1));
+        }
+    }
+
+    private static void contractedArrays() {
+        for (int array = 0; array < 6; array++) {
+            LoopFuser x = new LoopFuser(6, 16);
+            Programs.fillInit(x);
+            x.setTemp(array, true);
+            Programs.fillLoop(x, 0, 15, Programs.ref(array, 1, 0));
+            int other = (array + 1) % 6;
+            Programs.copyLoop(x, 0, 15, Programs.ref(other, 1, 0), Programs.ref(array, 1, 0));
+            analyzeAndRun("contracted", x);
+            Check.equal("contracted", x.arrayInfo(array, LoopFuser.A_CONTRACTED), 1);
+            for (int i = 0; i < 16; i++) {
+                Check.equal("original", x.getOriginal(array, i), i + 1);
+                Check.equal("fused", x.getFused(array, i), 100 * (array + 1) + i);
+                Check.equal("copy, original", x.getOriginal(other, i), i + 1);
+                Check.equal("copy, fused", x.getFused(other, i), i + 1);
+            }
+        }
+    }
+
+    private static void contractedArraysDoNotCount() {
+        for (int flags = 1; flags < 64; flags++) {
+            LoopFuser x = new LoopFuser(6, 16);
+            for (int array = 0; array < 6; array++) {
+                x.setTemp(array, (flags >> array & 1) == 1);
+                Programs.fillLoop(x, 0, 15, Programs.ref(array, 1, 0));
+            }
+            x.analyze();
+            Check.equal("run", x.run(), 0);
+            int different = 0;
+            for (int array = 0; array < 6; array++) {
+                for (int index = 0; index < 16; index++) {
+                    boolean same = x.getOriginal(array, index) == x.getFused(array, index);
+                    different += same ? 0 : 1;
+                }
+            }
+            Check.equal("cells that differ", different, 16 * Integer.bitCount(flags));
+        }
     }
 
     private static void keepsResultsWhereLoopsMayNotFuse() {
@@ -201,6 +201,80 @@ public final class RunTest {
         expect("two groups", x, 2, 0, 2, 3, 4);
     }
 
+    private static void answersZero() {
+        for (Supplier<LoopFuser> building : Programs.building()) {
+            LoopFuser x = building.get();
+            for (int n = 0; n < 3; n++) {
+                Check.equal("early run", x.run(), -1);
+            }
+            x.analyze();
+            for (int n = 0; n < 3; n++) {
+                Check.equal("run", x.run(), 0);
+            }
+        }
+    }
+
+    private static void expectEqualResults(LoopFuser x) {
+        for (int array = 0; array < x.query(LoopFuser.Q_ARRAYS); array++) {
+            if (x.arrayInfo(array, LoopFuser.A_CONTRACTED) == 0) {
+                for (int index = 0; index < x.query(LoopFuser.Q_LENGTH); index++) {
+                    Check.equal("fused as original", x.getFused(array, index),
+                            x.getOriginal(array, index));
+                }
+            }
+        }
+    }
+
+    private static void resultsAreEqualAtEveryPoint() {
+        List<Supplier<LoopFuser>> states = new ArrayList<>(Programs.building());
+        states.addAll(Programs.late());
+        for (Supplier<LoopFuser> state : states) {
+            LoopFuser x = state.get();
+            expectEqualResults(x);
+            for (int n = 0; n < 3; n++) {
+                x.setInit(n, 7 - n, -n);
+                expectEqualResults(x);
+                x.run();
+                expectEqualResults(x);
+                x.addStatement(0, 0, 1, 0);
+                x.setArrayOperand(0, 3, 1, 1);
+                expectEqualResults(x);
+                x.analyze();
+                expectEqualResults(x);
+            }
+        }
+    }
+
+    private static void runsNothing() {
+        LoopFuser x = new LoopFuser(2, 4);
+        x.setInit(1, 3, 7);
+        x.setTemp(1, true);
+        x.analyze();
+        int[] before = Check.state(x);
+        Check.equal("run of nothing", x.run(), 0);
+        Check.changed("run of nothing", before, x, "query 5: 1", "original 1 3: 7", "fused 1 3: 7");
+    }
+
+    private static void runsNoIterationOfEmptyLoops() {
+        LoopFuser x = new LoopFuser(2, 4);
+        x.setInit(0, 0, 9);
+        Programs.fillLoop(x, 1, 0, Programs.ref(0, 1, 0));
+        Programs.fillLoop(x, 15, 0, Programs.ref(0, 0, 0));
+        Programs.fillLoop(x, 15, 0, Programs.ref(0, 0, 0));
+        analyzeAndRun("no iteration", x);
+        expect("no iteration", x, 0, 9, 0, 0, 0);
+        // A contracted array of such a group is not touched in either result.
+        LoopFuser y = new LoopFuser(2, 4);
+        Programs.fillInit(y);
+        y.setTemp(0, true);
+        Programs.fillLoop(y, 1, 0, Programs.ref(0, 1, 0));
+        Programs.copyLoop(y, 1, 0, Programs.ref(1, 1, 0), Programs.ref(0, 1, 0));
+        analyzeAndRun("no iteration, contracted", y);
+        Check.equal("contracted", y.arrayInfo(0, LoopFuser.A_CONTRACTED), 1);
+        expect("no iteration, contracted", y, 0, 100, 101, 102, 103);
+        expect("no iteration, contracted", y, 1, 200, 201, 202, 203);
+    }
+
     private static void runsLoopsWithoutStatements() {
         LoopFuser x = new LoopFuser(2, 4);
         x.addLoop(0, 3);
@@ -211,27 +285,35 @@ public final class RunTest {
         analyzeAndRun("without statements", x);
         expect("without statements", x, 0, 1, 2, 3, 4);
         expect("without statements", x, 1, 0, 2, 3, 0);
+        LoopFuser y = Programs.empty();
+        for (int loop = 0; loop < 8; loop++) {
+            y.addLoop(0, 15);
+        }
+        analyzeAndRun("no statement at all", y);
+        expect("no statement at all", y, 3, 400, 401, 402, 403, 404, 405, 406, 407);
     }
 
     private static void runsTheGreatestProgram() {
-        LoopFuser x = new LoopFuser(6, 16);
-        for (int array = 0; array < 6; array++) {
-            x.setTemp(array, true);
-        }
-        for (int stmt = 0; stmt < 12; stmt++) {
-            if (stmt < 8) {
-                x.addLoop(0, 15);
+        for (int own = 0; own <= 1; own++) {
+            LoopFuser x = new LoopFuser(6, 16);
+            for (int array = 0; array < 6; array++) {
+                x.setTemp(array, true);
             }
-            x.addStatement(LoopFuser.OP_ADD, 4, 1, 0);
-            x.setArrayOperand(0, 4, 1, 0);
-            x.setValueOperand(1, LoopFuser.OPND_INDEX, 0);
-        }
-        analyzeAndRun("the greatest program", x);
-        Check.equal("its groups", x.query(LoopFuser.Q_GROUPS), 1);
-        Check.equal("its contracted arrays", x.query(LoopFuser.Q_CONTRACTED), 0);
-        for (int index = 0; index < 16; index++) {
-            Check.equal("its original " + index, x.getOriginal(4, index), 12 * index);
-            Check.equal("its fused " + index, x.getFused(4, index), 12 * index);
+            for (int stmt = 0; stmt < 12; stmt++) {
+                if (stmt < 8) {
+                    x.addLoop(own == 1 ? stmt % 2 : 0, 15);
+                }
+                x.addStatement(LoopFuser.OP_ADD, 4, 1, 0);
+                x.setArrayOperand(0, 4, 1, 0);
+                x.setValueOperand(1, LoopFuser.OPND_INDEX, 0);
+            }
+            analyzeAndRun("the greatest program", x);
+            Check.equal("its groups", x.query(LoopFuser.Q_GROUPS), own == 1 ? 8 : 1);
+            Check.equal("its contracted arrays", x.query(LoopFuser.Q_CONTRACTED), 0);
+            for (int index = 0; index < 16; index++) {
+                Check.equal("its original " + index, x.getOriginal(4, index), 12 * index);
+                Check.equal("its fused " + index, x.getFused(4, index), 12 * index);
+            }
         }
     }
 }
