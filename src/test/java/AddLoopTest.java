@@ -1,3 +1,4 @@
+import java.util.List;
 import java.util.function.Supplier;
 
 /** Promise 3. */
@@ -86,12 +87,20 @@ public final class AddLoopTest {
         for (int loop = 0; loop < LoopFuser.MAX_LOOPS; loop++) {
             add(x, loop, loop, 15 - loop, 0);
         }
-        for (Supplier<LoopFuser> full : java.util.List.<Supplier<LoopFuser>>of(
-                Programs::fullOfLoops, Programs::full)) {
+        for (Supplier<LoopFuser> full : List.<Supplier<LoopFuser>>of(
+                Programs::fullOfLoops, Programs::full, AddLoopTest::eightWithoutStatement)) {
             Twins.unseen("the ninth loop", full, y -> y.addLoop(0, 3), -1);
             Twins.unseen("the ninth loop, empty", full, y -> y.addLoop(15, 0), -1);
             Twins.unseen("the ninth loop with wrong bounds", full, y -> y.addLoop(16, -1), -1);
         }
+    }
+
+    private static LoopFuser eightWithoutStatement() {
+        LoopFuser x = Programs.empty();
+        for (int loop = 0; loop < 8; loop++) {
+            x.addLoop(15 - loop, loop);
+        }
+        return x;
     }
 
     private static void refusesWrongLo() {

@@ -310,6 +310,16 @@ public final class AnalyzeTest {
                 expectSecond(first + " and " + second, x, first == second ? -1 : NONE);
             }
         }
+        // That an array is a temporary is nothing to its conflicts.
+        for (int offset = -7; offset <= 7; offset++) {
+            LoopFuser x = new LoopFuser(6, 8);
+            for (int array = 0; array < 6; array++) {
+                x.setTemp(array, true);
+            }
+            Programs.fillLoop(x, 0, 7, ref(B, 1, 0));
+            Programs.copyLoop(x, 0, 7, ref(C, 1, 0), ref(B, 1, offset));
+            expectSecond("temporary", x, -offset);
+        }
     }
 
     private static void conflictsOfWrites() {

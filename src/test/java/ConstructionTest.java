@@ -1,3 +1,5 @@
+import java.util.function.Consumer;
+
 /** Promise 1. */
 public final class ConstructionTest {
     private static final int[] LOW_ARRAYS = {Integer.MIN_VALUE, -65534, -252, -6, -2, -1, 0, 1};
@@ -79,7 +81,7 @@ public final class ConstructionTest {
     }
 
     /** Every size in range, and the sizes next to it and farthest from it. */
-    private static void onNewObjects(java.util.function.Consumer<LoopFuser> test) {
+    private static void onNewObjects(Consumer<LoopFuser> test) {
         int[] arrays = {Integer.MIN_VALUE, 1, 2, 3, 4, 5, 6, 7, Integer.MAX_VALUE};
         for (int a : arrays) {
             for (int length = 3; length <= 17; length++) {

@@ -130,6 +130,14 @@ public final class ExecutionTest {
         x.addLoop(0, 0);
         x.addStatement(LoopFuser.OP_ADD, 3, 2, offset);
         x.setValueOperand(0, LoopFuser.OPND_CONST, -7);
+        // A result kept behind the array would come back by the same reference.
+        x.addStatement(LoopFuser.OP_ADD, 0, 0, 0);
+        x.setArrayOperand(0, 3, 2, offset);
+        x.setValueOperand(1, LoopFuser.OPND_CONST, 100);
+        x.addLoop(0, 0);
+        x.addStatement(LoopFuser.OP_SUB, 5, 0, 1);
+        x.setValueOperand(0, LoopFuser.OPND_CONST, 601);
+        x.setArrayOperand(1, 3, -1, offset);
         analyzeAndRun("dropped", x);
         for (int array = 0; array < 6; array++) {
             for (int index = 0; index < length; index++) {

@@ -1,3 +1,4 @@
+import java.util.List;
 import java.util.function.Supplier;
 
 /** Promise 5. */
@@ -79,7 +80,7 @@ public final class SetArrayOperandTest {
     }
 
     private static void refusesWithoutStatement() {
-        for (Supplier<LoopFuser> start : java.util.List.<Supplier<LoopFuser>>of(
+        for (Supplier<LoopFuser> start : List.<Supplier<LoopFuser>>of(
                 Programs::empty, Programs::withLoop, SetArrayOperandTest::onlyLoops)) {
             refuse(start, 0, 0, 0, 0);
             refuse(start, 1, 3, 2, 16);

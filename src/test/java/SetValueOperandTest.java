@@ -1,3 +1,4 @@
+import java.util.List;
 import java.util.function.Supplier;
 
 /** Promise 6. */
@@ -93,7 +94,7 @@ public final class SetValueOperandTest {
     }
 
     private static void refusesWithoutStatement() {
-        for (Supplier<LoopFuser> start : java.util.List.<Supplier<LoopFuser>>of(
+        for (Supplier<LoopFuser> start : List.<Supplier<LoopFuser>>of(
                 Programs::empty, Programs::withLoop)) {
             refuse(start, 0, LoopFuser.OPND_CONST, 9);
             refuse(start, 1, LoopFuser.OPND_INDEX, Integer.MIN_VALUE);

@@ -1,6 +1,7 @@
 import java.util.List;
 import java.util.function.Supplier;
 import java.util.function.ToIntFunction;
+import java.util.stream.IntStream;
 
 /** The section "What it is" up to its constants, which FaceTest looks at. */
 public final class TermsTest {
@@ -263,8 +264,7 @@ public final class TermsTest {
     private static void indexWraps() {
         int[] edges = {
             Integer.MAX_VALUE - 16, Integer.MAX_VALUE - 15, Integer.MAX_VALUE - 14, -16, -15, -14};
-        int[] values = java.util.stream.IntStream.concat(
-                java.util.Arrays.stream(Values.any()), java.util.Arrays.stream(edges)).toArray();
+        int[] values = IntStream.concat(IntStream.of(Values.any()), IntStream.of(edges)).toArray();
         for (int value : values) {
             for (int which = 0; which <= 1; which++) {
                 for (int i = 0; i <= 15; i++) {
