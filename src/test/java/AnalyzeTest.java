@@ -385,6 +385,11 @@ public final class AnalyzeTest {
                 expectSecond("read before in statement " + stmt + " by operand " + which, x, -2);
             }
         }
+        for (int writer = 0; writer < 11; writer++) {
+            for (int which = 0; which <= 1; which++) {
+                expectTwelve(writer, which);
+            }
+        }
         for (int offset = -1; offset <= 1; offset++) {
             LoopFuser x = new LoopFuser(6, 16);
             Programs.copyLoop(x, 0, 7, ref(A, 1, 0), ref(A, 1, offset));
@@ -400,6 +405,19 @@ public final class AnalyzeTest {
         x.setValueOperand(0, LoopFuser.OPND_CONST, 1);
         x.setValueOperand(1, LoopFuser.OPND_INDEX, 1);
         expectSecond("references replaced by values", x, NONE);
+    }
+
+    /** Eleven statements in one loop, one of which writes B[i]; the twelfth reads B[i+4]. */
+    private static void expectTwelve(int writer, int which) {
+        LoopFuser x = new LoopFuser(6, 16);
+        x.addLoop(0, 7);
+        for (int stmt = 0; stmt < 11; stmt++) {
+            x.addStatement(LoopFuser.OP_ADD, stmt == writer ? B : A, 1, 0);
+        }
+        x.addLoop(0, 7);
+        x.addStatement(LoopFuser.OP_ADD, C, 1, 0);
+        x.setArrayOperand(which, B, 1, 4);
+        expectSecond("statement " + writer + " of twelve", x, -4);
     }
 
     /** Three statements, one of which reads B[i+offset]. */

@@ -1,5 +1,3 @@
-import java.util.ArrayList;
-import java.util.List;
 import java.util.function.Supplier;
 
 /** Promise 13. */
@@ -14,14 +12,8 @@ public final class ArrayInfoTest {
         Check.end();
     }
 
-    private static List<Supplier<LoopFuser>> states() {
-        List<Supplier<LoopFuser>> all = new ArrayList<>(Programs.building());
-        all.addAll(Programs.late());
-        return all;
-    }
-
     private static void changesNothing() {
-        for (Supplier<LoopFuser> state : states()) {
+        for (Supplier<LoopFuser> state : Programs.every()) {
             for (int array = 0; array < 4; array++) {
                 for (int what = 0; what <= 1; what++) {
                     int a = array;
@@ -90,7 +82,7 @@ public final class ArrayInfoTest {
                 Check.equal("last", x.arrayInfo(arrays - 1, what), 0);
             }
         }
-        for (Supplier<LoopFuser> state : states()) {
+        for (Supplier<LoopFuser> state : Programs.every()) {
             for (int array : Values.outside(0, 3)) {
                 Twins.unseen("arrayInfo(" + array + ", 0)", state, x -> x.arrayInfo(array, 0),
                         LoopFuser.INVALID);
@@ -101,7 +93,7 @@ public final class ArrayInfoTest {
     }
 
     private static void otherSelectors() {
-        for (Supplier<LoopFuser> state : states()) {
+        for (Supplier<LoopFuser> state : Programs.every()) {
             for (int what : Values.outside(0, 1)) {
                 for (int array : new int[] {0, 2, 3, 4}) {
                     Twins.unseen("arrayInfo(" + array + ", " + what + ")", state,

@@ -18,8 +18,7 @@ public final class CellsTest {
     }
 
     private static List<Supplier<LoopFuser>> states() {
-        List<Supplier<LoopFuser>> all = new ArrayList<>(Programs.building());
-        all.addAll(Programs.late());
+        List<Supplier<LoopFuser>> all = Programs.every();
         all.add(() -> filledRan(4, 8));
         return all;
     }

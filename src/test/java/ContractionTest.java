@@ -108,6 +108,45 @@ public final class ContractionTest {
         Programs.copyLoop(x, 0, 7, ref(C, 1, 0), ref(B, 1, 0));
         Programs.fillLoop(x, 2, 3, ref(D, 1, 0));
         expect("in the middle group", x, 3, true);
+        looksAtTheLastOfTwelve();
+    }
+
+    /** Twelve statements in eight loops; the first writes B[i], the last reads the reference. */
+    private static LoopFuser twelveStatements(int which, int[] last) {
+        LoopFuser x = withTemp();
+        for (int stmt = 0; stmt < 12; stmt++) {
+            if (stmt < 8) {
+                x.addLoop(1, 6);
+            }
+            x.addStatement(LoopFuser.OP_ADD, stmt == 0 ? B : C, 1, 0);
+            x.setValueOperand(0, LoopFuser.OPND_INDEX, stmt);
+        }
+        x.setArrayOperand(which, last[0], last[1], last[2]);
+        return x;
+    }
+
+    private static void looksAtTheLastOfTwelve() {
+        for (int which = 0; which <= 1; which++) {
+            expect("last of twelve", twelveStatements(which, ref(B, 1, 0)), 1, true);
+            expect("last of twelve, other array", twelveStatements(which, ref(D, 2, 0)), 1, true);
+            expect("last of twelve, offset", twelveStatements(which, ref(B, 1, -1)), 1, false);
+        }
+        LoopFuser x = twelveStatements(0, ref(B, 1, 0));
+        expect("last of twelve", x, 1, true);
+        for (int i = 1; i <= 6; i++) {
+            Check.equal("last of twelve, original", x.getOriginal(C, i), i);
+            Check.equal("last of twelve, fused", x.getFused(C, i), i);
+        }
+        // Written by the last alone.
+        LoopFuser y = new LoopFuser(6, 8);
+        y.setTemp(B, true);
+        for (int stmt = 0; stmt < 12; stmt++) {
+            if (stmt < 8) {
+                y.addLoop(1, 6);
+            }
+            y.addStatement(LoopFuser.OP_ADD, stmt == 11 ? B : C, 1, 0);
+        }
+        expect("written by the last of twelve", y, 1, true);
     }
 
     private static void needsTemp() {

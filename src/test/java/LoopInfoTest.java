@@ -1,5 +1,3 @@
-import java.util.ArrayList;
-import java.util.List;
 import java.util.function.Supplier;
 
 /** Promise 11. */
@@ -15,12 +13,6 @@ public final class LoopInfoTest {
         Check.sentence("Loop not in 0..L-1", LoopInfoTest::otherLoops);
         Check.sentence("or any other `what`: `INVALID`", LoopInfoTest::otherSelectors);
         Check.end();
-    }
-
-    private static List<Supplier<LoopFuser>> states() {
-        List<Supplier<LoopFuser>> all = new ArrayList<>(Programs.building());
-        all.addAll(Programs.late());
-        return all;
     }
 
     private static void expect(String name, LoopFuser x, int what, int... due) {
@@ -42,7 +34,7 @@ public final class LoopInfoTest {
     }
 
     private static void changesNothing() {
-        for (Supplier<LoopFuser> state : states()) {
+        for (Supplier<LoopFuser> state : Programs.every()) {
             for (int what = 0; what <= 6; what++) {
                 int w = what;
                 int last = state.get().query(LoopFuser.Q_LOOPS) - 1;
@@ -135,7 +127,7 @@ public final class LoopInfoTest {
     }
 
     private static void otherLoops() {
-        for (Supplier<LoopFuser> state : states()) {
+        for (Supplier<LoopFuser> state : Programs.every()) {
             int loops = state.get().query(LoopFuser.Q_LOOPS);
             for (int what = 0; what <= 6; what++) {
                 int w = what;
@@ -158,7 +150,7 @@ public final class LoopInfoTest {
     }
 
     private static void otherSelectors() {
-        for (Supplier<LoopFuser> state : states()) {
+        for (Supplier<LoopFuser> state : Programs.every()) {
             int last = state.get().query(LoopFuser.Q_LOOPS) - 1;
             for (int what : Values.outside(0, 6)) {
                 for (int loop : new int[] {0, last, last + 1}) {

@@ -1,3 +1,4 @@
+import java.util.ArrayList;
 import java.util.List;
 import java.util.function.Supplier;
 
@@ -21,6 +22,12 @@ final class Programs {
     static List<Supplier<LoopFuser>> late() {
         return List.of(Programs::emptyAnalyzed, Programs::analyzed, Programs::ran,
                 Programs::fullRan);
+    }
+
+    static List<Supplier<LoopFuser>> every() {
+        List<Supplier<LoopFuser>> all = new ArrayList<>(building());
+        all.addAll(late());
+        return all;
     }
 
     static LoopFuser empty() {

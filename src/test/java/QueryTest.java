@@ -1,5 +1,3 @@
-import java.util.ArrayList;
-import java.util.List;
 import java.util.function.Supplier;
 
 /** Promise 10. */
@@ -19,14 +17,8 @@ public final class QueryTest {
         Check.end();
     }
 
-    private static List<Supplier<LoopFuser>> states() {
-        List<Supplier<LoopFuser>> all = new ArrayList<>(Programs.building());
-        all.addAll(Programs.late());
-        return all;
-    }
-
     private static void changesNothing() {
-        for (Supplier<LoopFuser> state : states()) {
+        for (Supplier<LoopFuser> state : Programs.every()) {
             for (int what = 0; what <= 7; what++) {
                 int w = what;
                 int due = state.get().query(w);
@@ -127,7 +119,7 @@ public final class QueryTest {
             int due = Math.min(6, Math.max(2, arrays));
             Check.equal("Q_ARRAYS", new LoopFuser(arrays, 9).query(LoopFuser.Q_ARRAYS), due);
         }
-        for (Supplier<LoopFuser> state : states()) {
+        for (Supplier<LoopFuser> state : Programs.every()) {
             Check.equal("Q_ARRAYS", state.get().query(LoopFuser.Q_ARRAYS), 4);
         }
     }
@@ -141,13 +133,13 @@ public final class QueryTest {
             int due = length < 0 ? 4 : 16;
             Check.equal("Q_LENGTH", new LoopFuser(3, length).query(LoopFuser.Q_LENGTH), due);
         }
-        for (Supplier<LoopFuser> state : states()) {
+        for (Supplier<LoopFuser> state : Programs.every()) {
             Check.equal("Q_LENGTH", state.get().query(LoopFuser.Q_LENGTH), 8);
         }
     }
 
     private static void otherSelectors() {
-        for (Supplier<LoopFuser> state : states()) {
+        for (Supplier<LoopFuser> state : Programs.every()) {
             for (int what : Values.outside(0, 7)) {
                 Twins.unseen("query " + what, state, x -> x.query(what), LoopFuser.INVALID);
             }

@@ -1,5 +1,3 @@
-import java.util.ArrayList;
-import java.util.List;
 import java.util.function.Supplier;
 
 /** Promise 9. */
@@ -226,9 +224,7 @@ public final class RunTest {
     }
 
     private static void resultsAreEqualAtEveryPoint() {
-        List<Supplier<LoopFuser>> states = new ArrayList<>(Programs.building());
-        states.addAll(Programs.late());
-        for (Supplier<LoopFuser> state : states) {
+        for (Supplier<LoopFuser> state : Programs.every()) {
             LoopFuser x = state.get();
             expectEqualResults(x);
             for (int n = 0; n < 3; n++) {

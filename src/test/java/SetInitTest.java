@@ -1,5 +1,3 @@
-import java.util.ArrayList;
-import java.util.List;
 import java.util.function.Supplier;
 
 /** Promise 7. */
@@ -14,12 +12,6 @@ public final class SetInitTest {
         Check.sentence("or index not in 0..N-1", SetInitTest::refusesWrongIndex);
         Check.sentence("**INIT** (set by `setInit`)", SetInitTest::isSeenByTheNextRun);
         Check.end();
-    }
-
-    private static List<Supplier<LoopFuser>> everyState() {
-        List<Supplier<LoopFuser>> all = new ArrayList<>(Programs.building());
-        all.addAll(Programs.late());
-        return all;
     }
 
     private static void set(LoopFuser x, int array, int index, int value) {
@@ -47,7 +39,7 @@ public final class SetInitTest {
     }
 
     private static void setsInAnyPhase() {
-        for (Supplier<LoopFuser> state : everyState()) {
+        for (Supplier<LoopFuser> state : Programs.every()) {
             LoopFuser x = state.get();
             for (int value : Values.any()) {
                 Check.isTrue("setInit", x.setInit(3, 7, value));
@@ -67,7 +59,7 @@ public final class SetInitTest {
                 }
             }
         }
-        for (Supplier<LoopFuser> state : everyState()) {
+        for (Supplier<LoopFuser> state : Programs.every()) {
             LoopFuser x = state.get();
             for (int array = 0; array < 4; array++) {
                 for (int index = 0; index < 8; index++) {
@@ -88,7 +80,7 @@ public final class SetInitTest {
             set(new LoopFuser(arrays, 8), 0, 7, 1);
             set(new LoopFuser(arrays, 8), arrays - 1, 0, 1);
         }
-        for (Supplier<LoopFuser> state : everyState()) {
+        for (Supplier<LoopFuser> state : Programs.every()) {
             for (int wrong : Values.outside(0, 3)) {
                 refuse(state, wrong, 0);
                 refuse(state, wrong, -1);
@@ -107,7 +99,7 @@ public final class SetInitTest {
             set(new LoopFuser(4, length), 3, 0, 1);
             set(new LoopFuser(4, length), 0, length - 1, 1);
         }
-        for (Supplier<LoopFuser> state : everyState()) {
+        for (Supplier<LoopFuser> state : Programs.every()) {
             for (int wrong : Values.outside(0, 7)) {
                 refuse(state, 0, wrong);
                 refuse(state, 1, wrong);

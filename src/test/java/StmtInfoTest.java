@@ -1,5 +1,3 @@
-import java.util.ArrayList;
-import java.util.List;
 import java.util.function.Supplier;
 
 /** Promise 12. */
@@ -18,12 +16,6 @@ public final class StmtInfoTest {
         Check.end();
     }
 
-    private static List<Supplier<LoopFuser>> states() {
-        List<Supplier<LoopFuser>> all = new ArrayList<>(Programs.building());
-        all.addAll(Programs.late());
-        return all;
-    }
-
     private static void expect(String name, LoopFuser x, int stmt, int from, int... due) {
         for (int n = 0; n < due.length; n++) {
             Check.equal(name + ", field " + (from + n), x.stmtInfo(stmt, from + n), due[n]);
@@ -37,7 +29,7 @@ public final class StmtInfoTest {
     }
 
     private static void changesNothing() {
-        for (Supplier<LoopFuser> state : states()) {
+        for (Supplier<LoopFuser> state : Programs.every()) {
             for (int what = 0; what <= 12; what++) {
                 int w = what;
                 int last = state.get().query(LoopFuser.Q_STATEMENTS) - 1;
@@ -135,7 +127,7 @@ public final class StmtInfoTest {
     }
 
     private static void otherStatements() {
-        for (Supplier<LoopFuser> state : states()) {
+        for (Supplier<LoopFuser> state : Programs.every()) {
             int statements = state.get().query(LoopFuser.Q_STATEMENTS);
             for (int what = 0; what <= 12; what++) {
                 int w = what;
@@ -157,7 +149,7 @@ public final class StmtInfoTest {
     }
 
     private static void otherSelectors() {
-        for (Supplier<LoopFuser> state : states()) {
+        for (Supplier<LoopFuser> state : Programs.every()) {
             int last = state.get().query(LoopFuser.Q_STATEMENTS) - 1;
             for (int what : Values.outside(0, 12)) {
                 for (int stmt : new int[] {0, last, last + 1}) {
