@@ -86,8 +86,7 @@ final class Programs {
     }
 
     private static void fillStatements(LoopFuser x, int count) {
-        while (x.query(LoopFuser.Q_STATEMENTS) < count) {
-            int stmt = x.query(LoopFuser.Q_STATEMENTS);
+        for (int stmt = x.query(LoopFuser.Q_STATEMENTS); stmt < count; stmt++) {
             x.addStatement(stmt % 3, 3 - stmt % 4, 1, stmt % 2);
             x.setArrayOperand(0, (stmt + 2) % 4, 1, 0);
             x.setValueOperand(1, LoopFuser.OPND_INDEX, stmt);
